@@ -14,6 +14,7 @@ public final class WokenByKettle {
     private static final int MILLION = 1000000;
 
     private final Kitchen kitchen;
+    private final Paths paths;
     private final Thought thought;
     private final Chances chances;
     private final Inquest inquest;
@@ -24,13 +25,17 @@ public final class WokenByKettle {
     private final Shelves shelves;
 
     public WokenByKettle() {
-        kitchen = new Kitchen();
-        thought = new Thought(kitchen);
-        chances = new Chances(kitchen, thought);
-        inquest = new Inquest(kitchen, thought);
-        plan = new Plan(kitchen, thought);
-        deeds = new Deeds(kitchen, thought);
-        changes = new Changes(kitchen);
+        Kitchen one = new Kitchen();
+        Paths ways = new Paths(one);
+        Thought odds = new Thought(one, ways);
+        kitchen = one;
+        paths = ways;
+        thought = odds;
+        chances = new Chances(one, ways, odds);
+        inquest = new Inquest(one, ways, odds);
+        plan = new Plan(one, ways, odds);
+        deeds = new Deeds(one, ways);
+        changes = new Changes(one);
         acts = new Acts();
         shelves = new Shelves();
     }
@@ -104,8 +109,8 @@ public final class WokenByKettle {
         if (!isSet(set) || !kitchen.has(part)) {
             return BAD;
         }
-        thought.follow(set);
-        int minute = thought.minuteOf(part);
+        paths.follow();
+        int minute = paths.minuteOf(set, part);
         return minute == NEVER ? NOT : minute;
     }
 
@@ -113,8 +118,8 @@ public final class WokenByKettle {
         if (!isSet(set)) {
             return BAD;
         }
-        thought.follow(set);
-        return thought.held;
+        paths.follow();
+        return paths.stuckOf(set);
     }
 
     public long likely(int minute, int part) {
@@ -286,7 +291,7 @@ public final class WokenByKettle {
     }
 
     public int led(int what) {
-        return what < 0 || what >= Deeds.LEDGER ? BAD : deeds.ledgerAt(what);
+        return deeds.ledgerAt(what);
     }
 
     public int image() {
@@ -626,8 +631,9 @@ public final class WokenByKettle {
         private final int[] named = new int[6];
         private final Law rules = new Law();
         private int parts;
-        /** Moves on with all that is written, so that others see when what they worked out is stale. */
+        /** Move on with what is written (shapes: with AHEAD, ANY, TAKES alone), so that what is stale shows. */
         private int writings;
+        private int shapes;
 
         private Kitchen() {
             numbers[READY][0] = 60;
@@ -663,6 +669,7 @@ public final class WokenByKettle {
             if (isPlace(number, what)) {
                 numbers[what][number] = v;
                 writings++;
+                shapes += what == AHEAD || what == ANY || what == TAKES ? 1 : 0;
             }
         }
 
@@ -711,52 +718,57 @@ public final class WokenByKettle {
         }
     }
 
-    /** What each set that works comes to, with which odds: worked out once for all calls between two writings. */
-    private static final class Thought {
-        private static final int LAST_MINUTE = 999, LATEST_END = 540;
-
+    /** What each set that works comes to: followed once for all calls between two changes of the shape. */
+    private static final class Paths {
         private final Kitchen kitchen;
-        private final int[] twelfths = new int[MOST_PARTS];
-        private final int[] minutes = new int[MOST_PARTS];
-        private final long[] odds = new long[MOST_SETS];
+        /** By PART, then by what works of it and of those of less number: the minute in which it has gone. */
+        private final int[][] minutes = new int[MOST_PARTS][MOST_SETS];
         private final int[] goers = new int[MOST_SETS];
         private final int[] stuckOnes = new int[MOST_SETS];
         private final int[] ends = new int[MOST_SETS];
-        private final long[] oddsOfMinute = new long[LATEST_END + 1];
-        /** The minutes with odds above 0, upward: there are at most as many as sets. */
-        private final int[] endings = new int[MOST_SETS];
-        private int endingCount;
-        private int sets;
-        private long whole;
-        private int went;
-        private int held;
-        private int writingsSeen = -1;
+        private int sets = 1;
+        private int shapesSeen = -1;
 
-        private Thought(Kitchen kitchen) {
+        private Paths(Kitchen kitchen) {
             this.kitchen = kitchen;
         }
 
-        /** Lets just a set work: fills the minutes, those that went, those that are held STUCK. */
-        private void follow(int set) {
-            went = 0;
-            held = 0;
-            for (int part = 0; part < kitchen.parts; part++) {
-                minutes[part] = NEVER;
-                int start = startOf(part);
-                if (start != NEVER && (set >> part & 1) == 0) {
-                    held |= 1 << part;
-                } else if (start != NEVER) {
-                    went |= 1 << part;
-                    minutes[part] = start + kitchen.told(part, Kitchen.TAKES);
-                }
+        private void follow() {
+            if (shapesSeen == kitchen.shapes) {
+                return;
+            }
+            shapesSeen = kitchen.shapes;
+            sets = 1 << kitchen.parts;
+            goers[0] = 0;
+            stuckOnes[0] = 0;
+            for (int part = 0; part < kitchen.parts && part < MOST_PARTS; part++) {
+                followOne(part);
+            }
+            for (int set = 0; set < sets; set++) {
+                ends[set] = minuteOf(set, kitchen.parts - 1);
             }
         }
 
-        /** When a PART may begin, by those of less number, already followed. */
-        private int startOf(int part) {
+        /** Lets a PART work, and not, by each set of those of less number: the sets twice over. */
+        private void followOne(int part) {
+            int takes = kitchen.told(part, Kitchen.TAKES);
+            int half = 1 << part;
+            for (int set = 0; set < half; set++) {
+                int start = startOf(part, set);
+                int bit = start == NEVER ? 0 : half;
+                minutes[part][set] = NEVER;
+                minutes[part][set + half] = start == NEVER ? NEVER : start + takes;
+                goers[set + half] = goers[set] | bit;
+                stuckOnes[set + half] = stuckOnes[set];
+                stuckOnes[set] |= bit;
+            }
+        }
+
+        /** When a PART may begin, by a set of those of less number. */
+        private int startOf(int part, int set) {
             int ahead = kitchen.told(part, Kitchen.AHEAD);
-            int came = ahead & went;
             boolean any = kitchen.told(part, Kitchen.ANY) == 1;
+            int came = ahead & goers[set];
             if (ahead == 0) {
                 return 0;
             }
@@ -765,18 +777,52 @@ public final class WokenByKettle {
             }
             int first = Integer.MAX_VALUE;
             int last = 0;
-            for (int other = 0; other < part && other < minutes.length; other++) {
+            for (int other = 0; other < part; other++) {
                 if ((came >> other & 1) == 1) {
-                    first = Math.min(first, minutes[other]);
-                    last = Math.max(last, minutes[other]);
+                    int minute = minuteOf(set, other);
+                    first = Math.min(first, minute);
+                    last = Math.max(last, minute);
                 }
             }
             return any ? first : last;
         }
 
-        /** The minute in which a PART has gone by the set followed last. */
-        private int minuteOf(int part) {
-            return part < 0 || part >= kitchen.parts ? NEVER : minutes[part];
+        /** The minute in which a PART has gone, if a set works; those of greater number do not matter. */
+        private int minuteOf(int set, int part) {
+            return kitchen.has(part) ? minutes[part][set & (2 << part) - 1] : NEVER;
+        }
+
+        private int endOf(int set) {
+            return ends[set & sets - 1];
+        }
+
+        private int goersOf(int set) {
+            return goers[set & sets - 1];
+        }
+
+        private int stuckOf(int set) {
+            return stuckOnes[set & sets - 1];
+        }
+    }
+
+    /** The odds of each set, of each minute: weighed once for all calls between two writings. */
+    private static final class Thought {
+        private static final int LAST_MINUTE = 999, LATEST_END = 540;
+
+        private final Kitchen kitchen;
+        private final Paths paths;
+        private final int[] twelfths = new int[MOST_PARTS];
+        private final long[] odds = new long[MOST_SETS];
+        private final long[] oddsOfMinute = new long[LATEST_END + 1];
+        /** The minutes with odds above 0, upward: there are at most as many as sets. */
+        private final int[] endings = new int[MOST_SETS];
+        private int endingCount;
+        private long whole = 1;
+        private int writingsSeen = -1;
+
+        private Thought(Kitchen kitchen, Paths paths) {
+            this.kitchen = kitchen;
+            this.paths = paths;
         }
 
         private void think() {
@@ -784,7 +830,7 @@ public final class WokenByKettle {
                 return;
             }
             writingsSeen = kitchen.writings;
-            sets = 1 << kitchen.parts;
+            paths.follow();
             whole = 1;
             for (int part = 0; part < kitchen.parts; part++) {
                 twelfths[part] = kitchen.twelfths(part, kitchen.told(part, Kitchen.AGE));
@@ -792,13 +838,10 @@ public final class WokenByKettle {
             }
             weigh(odds, twelfths, kitchen.parts, NOBODY);
             Arrays.fill(oddsOfMinute, 0);
-            for (int set = 0; set < sets; set++) {
-                follow(set);
-                goers[set] = went;
-                stuckOnes[set] = held;
-                ends[set] = minuteOf(kitchen.parts - 1);
-                if (ends[set] >= 0 && ends[set] <= LATEST_END) {
-                    oddsOfMinute[ends[set]] += odds[set];
+            for (int set = 0; set < paths.sets; set++) {
+                int minute = paths.ends[set];
+                if (minute >= 0 && minute <= LATEST_END) {
+                    oddsOfMinute[minute] += odds[set];
                 }
             }
             listEndings();
@@ -830,8 +873,8 @@ public final class WokenByKettle {
 
         private long oddsToGo(int part) {
             long sum = 0;
-            for (int set = 0; set < sets; set++) {
-                sum += (goers[set] >> part & 1) * odds[set];
+            for (int set = 0; set < paths.sets; set++) {
+                sum += (paths.goers[set] >> part & 1) * odds[set];
             }
             return sum;
         }
@@ -870,8 +913,8 @@ public final class WokenByKettle {
 
         private int waysTo(int minute) {
             int ways = 0;
-            for (int set = 0; set < sets; set++) {
-                if (ends[set] == minute && odds[set] > 0) {
+            for (int set = 0; set < paths.sets; set++) {
+                if (paths.ends[set] == minute && odds[set] > 0) {
                     ways++;
                 }
             }
@@ -881,8 +924,8 @@ public final class WokenByKettle {
         private int likeliestWayTo(int minute) {
             int best = NOT;
             long most = 0;
-            for (int set = 0; set < sets; set++) {
-                if (ends[set] == minute && odds[set] > most) {
+            for (int set = 0; set < paths.sets; set++) {
+                if (paths.ends[set] == minute && odds[set] > most) {
                     best = set;
                     most = odds[set];
                 }
@@ -897,27 +940,28 @@ public final class WokenByKettle {
         private static final int DOUBLE = 0, BETTER = 1;
 
         private final Kitchen kitchen;
+        private final Paths paths;
         private final Thought thought;
         private final long[] others = new long[MOST_SETS];
 
-        private Chances(Kitchen kitchen, Thought thought) {
+        private Chances(Kitchen kitchen, Paths paths, Thought thought) {
             this.kitchen = kitchen;
+            this.paths = paths;
             this.thought = thought;
         }
 
         private int worthOf(int b) {
+            int ready = kitchen.told(0, Kitchen.READY);
+            int ofEarly = kitchen.told(0, Kitchen.EARLY);
+            int ofLate = kitchen.told(0, Kitchen.LATE);
             long sum = 0;
             for (int i = 0; i < thought.endingCount; i++) {
                 int minute = thought.endings[i];
-                sum += thought.oddsOfMinute[minute] * worthAt(minute + b);
+                int late = minute + b - ready;
+                int cost = late > 0 ? late * ofLate : -late * ofEarly;
+                sum += thought.oddsOfMinute[minute] * Math.max(0, FULL_WORTH - cost);
             }
             return (int) cut(sum, 1000, thought.whole);
-        }
-
-        private int worthAt(int minute) {
-            int late = minute - kitchen.told(0, Kitchen.READY);
-            int cost = late > 0 ? late * kitchen.told(0, Kitchen.LATE) : -late * kitchen.told(0, Kitchen.EARLY);
-            return Math.max(0, FULL_WORTH - cost);
         }
 
         private int bestBegin() {
@@ -962,8 +1006,8 @@ public final class WokenByKettle {
         private long oddsOfEnd(int part, long works, long fails) {
             Thought.weigh(others, thought.twelfths, kitchen.parts, part);
             long sum = 0;
-            for (int set = 0; set < thought.sets; set++) {
-                if (thought.ends[set] != NEVER) {
+            for (int set = 0; set < paths.sets; set++) {
+                if (paths.ends[set] != NEVER) {
                     sum += others[set] * ((set >> part & 1) == 1 ? works : fails);
                 }
             }
@@ -972,8 +1016,8 @@ public final class WokenByKettle {
 
         private long oddsOfFire() {
             long sum = 0;
-            for (int set = 0; set < thought.sets; set++) {
-                if (burns(kitchen, thought.goers[set])) {
+            for (int set = 0; set < paths.sets; set++) {
+                if (burns(kitchen, paths.goers[set])) {
                     sum += thought.odds[set];
                 }
             }
@@ -999,9 +1043,9 @@ public final class WokenByKettle {
                         set |= 1 << part;
                     }
                 }
-                if (thought.ends[set] != NEVER) {
+                if (paths.ends[set] != NEVER) {
                     ends++;
-                    minutes += thought.ends[set];
+                    minutes += paths.ends[set];
                 }
             }
             return howOften ? ends : minutes;
@@ -1013,6 +1057,7 @@ public final class WokenByKettle {
         private static final int LONGEST_BOOK = 8, MOST_TOLD = MOST_SETS * MOST_SETS;
 
         private final Kitchen kitchen;
+        private final Paths paths;
         private final Thought thought;
         private final long[] others = new long[MOST_SETS];
         private final long[] products = new long[TWELVE + 1];
@@ -1020,8 +1065,9 @@ public final class WokenByKettle {
         private int told;
         private int suspect;
 
-        private Inquest(Kitchen kitchen, Thought thought) {
+        private Inquest(Kitchen kitchen, Paths paths, Thought thought) {
             this.kitchen = kitchen;
+            this.paths = paths;
             this.thought = thought;
         }
 
@@ -1031,18 +1077,18 @@ public final class WokenByKettle {
         }
 
         private void hear(int sg) {
-            seen = sg / MOST_SETS & thought.sets - 1;
-            told = sg % MOST_SETS & thought.sets - 1;
+            seen = sg / MOST_SETS & paths.sets - 1;
+            told = sg % MOST_SETS & paths.sets - 1;
         }
 
         /** The odds of a set, if it works as it is told; else 0. */
         private long oddsSo(int set) {
-            return (thought.goers[set] & seen) == told ? thought.odds[set] : 0;
+            return (paths.goers[set] & seen) == told ? thought.odds[set] : 0;
         }
 
         private long oddsHeard() {
             long sum = 0;
-            for (int set = 0; set < thought.sets; set++) {
+            for (int set = 0; set < paths.sets; set++) {
                 sum += oddsSo(set);
             }
             return sum;
@@ -1050,16 +1096,16 @@ public final class WokenByKettle {
 
         private long oddsStuck(int part) {
             long sum = 0;
-            for (int set = 0; set < thought.sets; set++) {
-                sum += (thought.stuckOnes[set] >> part & 1) * oddsSo(set);
+            for (int set = 0; set < paths.sets; set++) {
+                sum += (paths.stuckOnes[set] >> part & 1) * oddsSo(set);
             }
             return sum;
         }
 
         private long oddsGone(int part) {
             long sum = 0;
-            for (int set = 0; set < thought.sets; set++) {
-                sum += (thought.goers[set] >> part & 1) * oddsSo(set);
+            for (int set = 0; set < paths.sets; set++) {
+                sum += (paths.goers[set] >> part & 1) * oddsSo(set);
             }
             return sum;
         }
@@ -1103,10 +1149,10 @@ public final class WokenByKettle {
         private void read(int minute) {
             long ifWorks = 0;
             long ifFails = 0;
-            for (int set = 0; set < thought.sets; set++) {
-                if (thought.ends[set] == minute && (set >> suspect & 1) == 1) {
+            for (int set = 0; set < paths.sets; set++) {
+                if (paths.ends[set] == minute && (set >> suspect & 1) == 1) {
                     ifWorks += others[set];
-                } else if (thought.ends[set] == minute) {
+                } else if (paths.ends[set] == minute) {
                     ifFails += others[set];
                 }
             }
@@ -1134,6 +1180,7 @@ public final class WokenByKettle {
         private static final int MOST_MORNINGS = 3, MOST_MENDED = 5, MOST_WAYS = 216, FEW_SETS = 32;
 
         private final Kitchen kitchen;
+        private final Paths paths;
         private final Thought thought;
         /** By morning and way up to it: millionths together. */
         private final int[][] together = new int[MOST_MORNINGS][MOST_WAYS];
@@ -1143,8 +1190,9 @@ public final class WokenByKettle {
         private final long[] odds = new long[FEW_SETS];
         private int base = 1;
 
-        private Plan(Kitchen kitchen, Thought thought) {
+        private Plan(Kitchen kitchen, Paths paths, Thought thought) {
             this.kitchen = kitchen;
+            this.paths = paths;
             this.thought = thought;
         }
 
@@ -1191,8 +1239,8 @@ public final class WokenByKettle {
             }
             Thought.weigh(odds, twelfths, kitchen.parts, NOBODY);
             long sum = 0;
-            for (int set = 0; set < thought.sets; set++) {
-                if (thought.ends[set] != NEVER) {
+            for (int set = 0; set < paths.sets; set++) {
+                if (paths.ends[set] != NEVER) {
                     sum += odds[set];
                 }
             }
@@ -1218,24 +1266,24 @@ public final class WokenByKettle {
         private static final int MORNINGS = 0, ENDS = 1, MINUTES = 2, STUCK_ONES = 3, FIRES = 4, MENDS = 5, LEDGER = 6;
 
         private final Kitchen kitchen;
-        private final Thought thought;
+        private final Paths paths;
         private final int[] ledger = new int[LEDGER];
         private final int[] ledgerKept = new int[LEDGER];
         private final int[] agesKept = new int[MOST_PARTS];
         private int partsKept;
         private boolean kept;
 
-        private Deeds(Kitchen kitchen, Thought thought) {
+        private Deeds(Kitchen kitchen, Paths paths) {
             this.kitchen = kitchen;
-            this.thought = thought;
+            this.paths = paths;
         }
 
         private int live(int set) {
-            thought.follow(set);
-            int minute = thought.minuteOf(kitchen.parts - 1);
+            paths.follow();
+            int minute = paths.endOf(set);
             ledger[MORNINGS]++;
-            ledger[STUCK_ONES] += Integer.bitCount(thought.held);
-            if (Chances.burns(kitchen, thought.went)) {
+            ledger[STUCK_ONES] += Integer.bitCount(paths.stuckOf(set));
+            if (Chances.burns(kitchen, paths.goersOf(set))) {
                 ledger[FIRES]++;
             }
             kitchen.ageAll();
