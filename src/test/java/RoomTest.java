@@ -31,7 +31,7 @@ public final class RoomTest {
     }
 
     private static void wildRun(Method[] face, long seed) throws ReflectiveOperationException {
-        Random random = new Random(seed);
+        Random random = new Random(seed * 0x9E3779B97F4A7C15L);
         WokenByKettle x = new WokenByKettle();
         WokenByKettle twin = new WokenByKettle();
         for (int i = 0; i < 1000; i++) {
