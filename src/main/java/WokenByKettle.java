@@ -338,11 +338,8 @@ public final class WokenByKettle {
     }
 
     public long element(int shelf, int i) {
-        if (!Shelves.isShelf(shelf)) {
-            return Long.MIN_VALUE;
-        }
-        int refusal = shelves.refusalOfPlace(shelf, i);
-        return refusal == GOOD ? shelves.cell(shelf, i) : refusal;
+        // -11 to -13 may be elements, so every refusal is told by Long.MIN_VALUE
+        return shelves.refusalOfPlace(shelf, i) == GOOD ? shelves.cell(shelf, i) : Long.MIN_VALUE;
     }
 
     public int shift(int shelf, int i, int other, int j, int n) {

@@ -916,8 +916,8 @@ final class Model {
     long element(int shelf, int i) {
         if (shelf < 0 || shelf > 5) return MIN;
         Object o = shelves[shelf];
-        if (o == null) return -11;
-        if (o instanceof Pot) return -12;
+        if (o == null) return MIN;
+        if (o instanceof Pot) return MIN;
         try {
             if (o instanceof byte[]) return ((byte[]) o)[i];
             if (o instanceof short[]) return ((short[]) o)[i];
@@ -925,7 +925,7 @@ final class Model {
             if (o instanceof long[]) return ((long[]) o)[i];
             return ((boolean[]) o)[i] ? 1 : 0;
         } catch (ArrayIndexOutOfBoundsException e) {
-            return -13;
+            return MIN;
         }
     }
 

@@ -133,7 +133,7 @@ public final class ShelvesTest {
         due("last shelf", x.keep(5, 1), 1);
         x.row(0, 1, 3);
         due("instead of a row", x.keep(0, 2), 1);
-        due("no row", x.element(0, 0), -12);
+        due("no row", x.element(0, 0), MIN);
         due("bad changes nothing", x.keep(0, 9), -1);
         due("still there", x.taken(0, 2), 2);
     }
@@ -142,7 +142,7 @@ public final class ShelvesTest {
         WokenByKettle x = eight();
         due("row", x.row(0, 1, 60), 1);
         due("zero at first", x.element(0, 59), 0);
-        due("its end", x.element(0, 60), -13);
+        due("its end", x.element(0, 60), MIN);
         due("61", x.row(0, 1, 61), -1);
         due("below 0", x.row(0, 1, -1), -14);
         due("lowest", x.row(0, 1, Integer.MIN_VALUE), -14);
@@ -155,9 +155,9 @@ public final class ShelvesTest {
         due("nothing changed", x.element(0, 3), 7);
         due("a new one", x.row(0, 2, 4), 1);
         due("zero at first", x.element(0, 3), 0);
-        due("of its size", x.element(0, 4), -13);
+        due("of its size", x.element(0, 4), MIN);
         due("empty", x.row(0, 3, 0), 1);
-        due("empty", x.element(0, 0), -13);
+        due("empty", x.element(0, 0), MIN);
         x.keep(1, 3);
         due("instead of a body", x.row(1, 4, 2), 1);
         due("false at first", x.element(1, 1), 0);
@@ -195,14 +195,26 @@ public final class ShelvesTest {
         x.row(0, 0, 2);
         x.put(0, 1, 200);
         due("a byte", x.element(0, 1), -56);
-        due("behind", x.element(0, 2), -13);
-        due("ahead", x.element(0, -1), -13);
-        due("highest", x.element(0, Integer.MAX_VALUE), -13);
-        due("nothing there", x.element(1, 0), -11);
+        due("behind", x.element(0, 2), MIN);
+        due("ahead", x.element(0, -1), MIN);
+        due("highest", x.element(0, Integer.MAX_VALUE), MIN);
+        due("nothing there", x.element(1, 0), MIN);
         x.keep(1, 0);
-        due("a body", x.element(1, 0), -12);
+        due("a body", x.element(1, 0), MIN);
+        due("a body, no place", x.element(1, -1), MIN);
         due("shelf below", x.element(-1, 0), MIN);
         due("shelf above", x.element(6, 0), MIN);
+        due("a shelf of a new object", new WokenByKettle().element(5, 59), MIN);
+        for (int sort = 0; sort < 5; sort++) {
+            x.row(2, sort, 1);
+            due("behind, sort " + sort, x.element(2, 1), MIN);
+            for (int refusal = -14; sort < 4 && refusal <= -11; refusal++) {
+                x.put(2, 0, refusal);
+                due("an element like a refusal, sort " + sort, x.element(2, 0), refusal);
+            }
+        }
+        x.keep(2, -1);
+        due("nothing any more", x.element(2, 0), MIN);
     }
 
     private static void line(WokenByKettle x, int shelf, int sort, int n) {
