@@ -6,12 +6,13 @@ public final class LawTest {
     private static final String SHORT = "w1|<=+-*!()?;";
     private static final String ALL = "wdaegp0123456789|&<=>+-*/%?;!()";
 
+    private static WokenByKettle shared;
+    private static Model sharedModel;
+    private static int calls;
+
     public static void main(String[] args) {
-        WokenByKettle x = new WokenByKettle();
-        Model m = new Model();
-        x.part(0, 701);
-        m.part(0, 701);
-        allTexts(x, m, new StringBuilder(), 4);
+        renew();
+        allTexts(new StringBuilder(), 4);
         Random random = new Random(7);
         for (int i = 0; i < 6000 && CHECK.wrong() == 0; i++) {
             madeText(random);
@@ -19,11 +20,24 @@ public final class LawTest {
         CHECK.end();
     }
 
-    private static void allTexts(WokenByKettle x, Model m, StringBuilder text, int more) {
-        compare(x, m, text.toString(), 0);
+    private static void renew() {
+        shared = new WokenByKettle();
+        sharedModel = new Model();
+        shared.part(0, 701);
+        sharedModel.part(0, 701);
+        calls = 1;
+    }
+
+    private static void allTexts(StringBuilder text, int more) {
+        // what an object answers behind its 512th call is free
+        if (calls > 500) {
+            renew();
+        }
+        calls += text.length() + 2;
+        compare(shared, sharedModel, text.toString(), 0);
         for (int i = 0; i < SHORT.length() && more > 0 && CHECK.wrong() == 0; i++) {
             text.append(SHORT.charAt(i));
-            allTexts(x, m, text, more - 1);
+            allTexts(text, more - 1);
             text.setLength(text.length() - 1);
         }
     }

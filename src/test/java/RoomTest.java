@@ -15,7 +15,7 @@ public final class RoomTest {
 
     public static void main(String[] args) throws ReflectiveOperationException {
         Method[] face = face();
-        for (int seed = 0; seed < 300; seed++) {
+        for (int seed = 0; seed < 600; seed++) {
             wildRun(face, seed);
         }
         smallRoom();
@@ -34,7 +34,7 @@ public final class RoomTest {
         Random random = new Random(seed * 0x9E3779B97F4A7C15L);
         WokenByKettle x = new WokenByKettle();
         WokenByKettle twin = new WokenByKettle();
-        for (int i = 0; i < 1000; i++) {
+        for (int i = 0; i < 512; i++) {
             Method method = face[random.nextInt(face.length)];
             Object[] arguments = new Object[method.getParameterCount()];
             for (int k = 0; k < arguments.length; k++) {
