@@ -11,6 +11,7 @@ public final class EdgesShelvesTest {
         actsWrap();
         numberOfTheBody();
         nextKindAbove();
+        whatBodiesGive();
         traceOfTheLatest();
         firstTwentyFour();
         shelvesAtFirst();
@@ -83,6 +84,9 @@ public final class EdgesShelvesTest {
         due("BELL starts, less 1", x.act(7, 0, (1 << 30) - 7), HIGHEST);
         due("PART tells, lowest", x.act(0, 3, 1 << 30), HIGHEST);
         due("CORK tells", x.act(4, 3, HIGHEST), (2 * (HIGHEST + 7) - 5) ^ 5);
+        due("KETTLE tells, -(x + 6) * 2 - 5 + 1", x.act(5, 3, HIGHEST), -14);
+        due("KETTLE tells, beyond the lowest", x.act(5, 3, (1 << 30) - 7), HIGHEST - 1);
+        due("BELL takes, (x + 7) * 4 - 2 + 5", x.act(7, 1, 1 << 29), LOWEST + 31);
     }
 
     private static void numberOfTheBody() throws IOException {
@@ -120,6 +124,24 @@ public final class EdgesShelvesTest {
                 due("trace(" + i + ") of " + kind + " by " + act, x.trace(i), want[kind][i]);
             }
             due("none more", x.trace(want[kind].length), -1);
+        }
+    }
+
+    private static void whatBodiesGive() throws IOException {
+        CHECK.about(0, "BODIES of acts: STARTS (an interface of PART): 1 starts: x + n.");
+        int[][] at100 = {{100, 104, 102, 103, 107, 105, 212, 213}, {200, 208, -204, -208, 214, -212, 424, 431},
+            {100, 101, 102, 309, 96, 284, 98, 99}, {199, 208, -207, -214, 212, -216, 417, 425}};
+        int[][] at0 = {{0, 4, 2, 3, 7, 5, 12, 13}, {0, 8, -4, -8, 14, -12, 24, 31}, {0, 1, 2, 9, 4, 8, 6, 7},
+            {-1, 8, -7, -14, 12, -16, 17, 25}};
+        int[][] below = {{-1, 3, 1, 2, 6, 4, 10, 11}, {-2, 6, -2, -6, 12, -10, 20, 27}, {-1, -2, -3, -12, -5, -25, -7, -8},
+            {-3, 6, -5, -12, 2, -14, 13, 21}};
+        WokenByKettle x = eight();
+        for (int act = 0; act < 4; act++) {
+            for (int kind = 0; kind < 8; kind++) {
+                due("act(" + kind + ", " + act + ", 100)", x.act(kind, act, 100), at100[act][kind]);
+                due("act(" + kind + ", " + act + ", 0)", x.act(kind, act, 0), at0[act][kind]);
+                due("act(" + kind + ", " + act + ", -1)", x.act(kind, act, -1), below[act][kind]);
+            }
         }
     }
 

@@ -28,6 +28,10 @@ public final class RefusedTest {
         changesNothing("full", RefusedTest::full);
         changesNothing("old", RefusedTest::old);
         mornings();
+        refusalsOfTheHost();
+        theOneNamedFirst();
+        memoryOfItsOwn();
+        callsUpToTheLast();
         CHECK.end();
     }
 
@@ -329,5 +333,94 @@ public final class RefusedTest {
         int before = x.led(0);
         CHECK.due("nothing works", x.morning(0), -2);
         CHECK.due("it went by", x.led(0), before + 1);
+    }
+
+    private static void due(String call, long got, long want) {
+        CHECK.due(call, got, want);
+    }
+
+    private static void refusalsOfTheHost() throws IOException {
+        CHECK.about(0, "-11 nothing is there where something is wanted; -12 it is of another kind; "
+            + "-13 a place that is not there; -14 a size below 0.");
+        WokenByKettle x = middling();
+        due("put, nothing", x.put(5, 0, 1), -11);
+        due("shift, nothing", x.shift(5, 0, 1, 0, 0), -11);
+        due("taken, nothing", x.taken(5, 0), -11);
+        due("judge, nothing", x.judge(5), -11);
+        due("whose, nothing", x.whose(5, 0), -11);
+        due("put, a BODY", x.put(0, 0, 1), -12);
+        due("shift, a BODY", x.shift(0, 0, 1, 0, 0), -12);
+        due("taken, a ROW", x.taken(1, 0), -12);
+        due("judge, a BODY", x.judge(0), -12);
+        due("whose, a BODY", x.whose(0, 0), -12);
+        due("parts, a BODY", x.parts(0, 0, 1), -12);
+        due("put, no place", x.put(4, 3, 1), -13);
+        due("shift, no place", x.shift(4, 3, 4, 0, 1), -13);
+        due("row, below 0", x.row(5, 4, -1), -14);
+        due("nothing came of it", x.taken(5, 0), -11);
+    }
+
+    private static void theOneNamedFirst() throws IOException {
+        CHECK.about(0, "Answers, of several the one named first: BAD (-1): no such number, or it is not as said; "
+            + "NOT (-2): as told; FULL (-3); STATE (-5): as told; -11 to -14.");
+        WokenByKettle x = full();
+        WokenByKettle none = new WokenByKettle();
+        due("part: BAD, FULL", x.part(512, 1201), -1);
+        due("feed: BAD, FULL", x.feed(256), -1);
+        due("body: BAD, FULL", x.body(8), -1);
+        due("gone: BAD, NOT", x.gone(0, 9), -1);
+        due("when: BAD, NOT", none.when(2), -1);
+        due("change: BAD, NOT", none.change(0, 2), -1);
+        due("look: BAD, NOT", none.look(1), -1);
+        due("test: BAD, NOT", none.test(1), -1);
+        due("how: BAD, NOT", none.how(0, 2), -1);
+        due("mending: BAD, STATE", x.mending(0, -1), -3);
+        due("mending: BAD, not as many", x.mending(0, 3), -3);
+        due("morning: BAD, NOT", none.morning(512), -1);
+        due("parts: BAD, -12", x.parts(0, 0, 10), -1);
+        due("parts: -12, below 0", x.parts(0, -1, 1), -12);
+        due("judge: -12, not STATE", x.judge(2), -12);
+        due("whose: BAD, -11", x.whose(5, 9), -1);
+        due("whose: BAD, -12", x.whose(0, 9), -1);
+        due("whose: BAD, STATE", x.whose(1, 9), -1);
+        due("whose: STATE", x.whose(1, 0), -5);
+        due("keep: BAD, whatever is there", x.keep(1, 50), -1);
+        due("row: BAD, -14", x.row(1, 5, -1), -1);
+        due("put: -11, -13", x.put(5, -1, 1), -11);
+        due("put: -12, -13", x.put(0, -1, 1), -12);
+        due("shift: BAD, -11", x.shift(6, 0, 5, 0, 1), -1);
+        due("shift: -11, -12", x.shift(0, 0, 5, 0, 1), -11);
+        due("shift: -12, -13", x.shift(1, -1, 2, 0, 1), -12);
+        due("taken: BAD, -11", x.taken(5, 8), -1);
+        due("taken: BAD, -12", x.taken(1, 8), -1);
+    }
+
+    private static void memoryOfItsOwn() throws IOException {
+        CHECK.about(0, "All memory is the class's own.");
+        long[] want = told(middling());
+        WokenByKettle x = middling();
+        WokenByKettle y = full();
+        WokenByKettle z = old();
+        y.morning(511);
+        z.keep(0, -1);
+        z.row(1, 0, 3);
+        Given.law(z, "0");
+        z.act(1, 0, 5);
+        CHECK.holds("the others do not matter", Arrays.equals(told(x), want));
+        due("nor does it to them", y.led(0), 2);
+        due("nor does it to them", z.count(4), 1);
+    }
+
+    private static void callsUpToTheLast() throws IOException {
+        WokenByKettle x = Given.chain(9, 1260);
+        for (int call = 10; call < 512; call++) {
+            due("call " + call, x.morning(511), 540);
+        }
+        due("call 512", x.led(2), 502 * 540);
+        WokenByKettle y = new WokenByKettle();
+        for (int call = 1; call < 512; call++) {
+            due("call " + call, y.mend(0, 8, call % 301), call == 1 ? 60 : (call - 1) % 301);
+        }
+        due("call 512", y.count(2), 40);
     }
 }
