@@ -402,6 +402,11 @@ public final class EdgesFailedTest {
         due("whatever THE LAW gives", x.whose(0, 0), 6);
         Given.law(x, "-99");
         due("whatever THE LAW gives", x.whose(0, 0), 6);
+        // beside another that comes in its minute: 8 * 91 ^ 7 by none, 15 * 84 ^ 7 by one, 23 * 76 ^ 7 by two
+        WokenByKettle y = Given.parts(0, 610, 0, 110, 3, 1201);
+        y.mend(2, 1, 1);
+        Given.shorts(y, 0, 11, -1, -1, -1, -1, -1, -1, -1);
+        due("a single twelfth", y.whose(0, 0), 1);
     }
 
     private static void whoseOfLikeOnes() throws IOException {
