@@ -1200,7 +1200,7 @@ public final class WokenByKettle {
             for (int k = 0; k < mornings; k++) {
                 ways *= base;
                 for (int way = 0; way < ways; way++) {
-                    int before = k == 0 ? 0 : together[k - 1][way / base];
+                    int before = k == 0 ? 0 : together[k - 1][withoutLast(way)];
                     together[k][way] = before + millionths(k, way);
                 }
             }
@@ -1252,9 +1252,14 @@ public final class WokenByKettle {
         private int whom(int way, int mornings, int k) {
             int rest = way;
             for (int j = mornings - 1; j > k; j--) {
-                rest /= base;
+                rest = withoutLast(rest);
             }
-            return rest % base - 1;
+            return rest - withoutLast(rest) * base - 1;
+        }
+
+        /** A way without its last morning. */
+        private int withoutLast(int way) {
+            return base > 0 ? way / base : 0;
         }
     }
 

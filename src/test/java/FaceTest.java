@@ -51,10 +51,7 @@ public final class FaceTest {
 
     private static void methods() {
         Set<String> seen = new TreeSet<>();
-        Set<String> names = new HashSet<>();
-        for (String line : FACE) {
-            names.add(line.replaceAll("^\\w+ (\\w+).*", "$1"));
-        }
+        Set<String> names = publicNames();
         for (Method method : WokenByKettle.class.getDeclaredMethods()) {
             if (Modifier.isPublic(method.getModifiers())) {
                 seen.add(told(method));
@@ -69,6 +66,14 @@ public final class FaceTest {
         CHECK.holds("one public constructor",
             all.length == 1 && Modifier.isPublic(all[0].getModifiers()) && all[0].getParameterCount() == 0);
         CHECK.holds("public and final", WokenByKettle.class.getModifiers() == (Modifier.PUBLIC | Modifier.FINAL));
+    }
+
+    private static Set<String> publicNames() {
+        Set<String> names = new HashSet<>();
+        for (String line : FACE) {
+            names.add(line.replaceAll("^\\w+ (\\w+).*", "$1"));
+        }
+        return names;
     }
 
     private static String told(Method method) {
@@ -102,7 +107,15 @@ public final class FaceTest {
         CHECK.holds(one.getName() + " is not public", !Modifier.isPublic(one.getModifiers()));
         CHECK.due("classes inside " + one.getName(), one.getDeclaredClasses().length, 0);
         fields(one);
+        for (Field field : one.getDeclaredFields()) {
+            CHECK.holds(field.getName() + " is private", Modifier.isPrivate(field.getModifiers()));
+        }
+        for (Constructor<?> constructor : one.getDeclaredConstructors()) {
+            CHECK.holds(one.getName() + " is made in this file alone", Modifier.isPrivate(constructor.getModifiers()));
+        }
         for (Method method : one.getDeclaredMethods()) {
+            CHECK.holds(method.getName() + " is private", Modifier.isPrivate(method.getModifiers()));
+            CHECK.holds(method.getName() + " is a name of its own", !publicNames().contains(method.getName()));
             CHECK.holds(method.getName() + " has seven parameters at most", method.getParameterCount() <= 7);
         }
     }
